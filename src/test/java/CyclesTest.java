@@ -78,7 +78,7 @@ final class CyclesTest {
     }
 
     private static void changesNothing() {
-        TapLoom loom = withFeedback(0, -60, 30);
+        TapLoom loom = withFeedback(0, -64, 0);
         loom.chain(0);
         loom.run(1000);
         loom.run(2000);
@@ -89,6 +89,11 @@ final class CyclesTest {
         CHECK.due("the same again", loom.cycles(0, 12, COUNT), first);
         CHECK.due("y1 stays", loom.of(0, 7), y1);
         CHECK.due("y2 stays", loom.of(0, 8), y2);
+        cyclesAre(loom, 12, first, loom.cycles(0, 12, LONGEST), loom.cycles(0, 12, GREATEST), 0);
+        int other = loom.section(0);
+        for (int what = COUNT; what <= LEAVING; what++) {
+            CHECK.due("one without cycles, asked after it: " + what, loom.cycles(other, 12, what), 0);
+        }
     }
 
     private static void refuses() {
