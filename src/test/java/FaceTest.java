@@ -6,7 +6,7 @@ import java.util.Arrays;
 import java.util.Set;
 import java.util.TreeSet;
 
-/** The public face: just the document's members, and no private method of a public one's name. */
+/** The public face of the document, and rules 1 and 2 of LANGUAGE.md, as the compiled class shows them. */
 final class FaceTest {
     private static final String[] METHODS = {
         "int section(int) IllegalArgumentException IllegalStateException",
@@ -29,42 +29,53 @@ final class FaceTest {
         "int answerAnew(int) IndexOutOfBoundsException",
         "int sifted(int) IndexOutOfBoundsException",
     };
+    private static final String[] CONSTANTS = {"NONE", "LOW", "HIGH", "QUARTER"};
+
+    private static final Kit KIT = new Kit();
 
     public static void main(String[] args) {
-        Check check = new Check();
-        methods(check);
-        fields(check);
-        constructors(check);
-        classesInside(check);
-        check.end();
+        KIT.test("The public face: its class is public and final and has no package", FaceTest::theClass);
+        KIT.test("The public face: one constructor, public, without parameters", FaceTest::constructor);
+        KIT.test("The public face: just its methods, each with its throws clause in order", FaceTest::methods);
+        KIT.test("The public face: just its constants, public static final int", FaceTest::constants);
+        KIT.test("LANGUAGE.md rule 1: no private method bears the name of a public one", FaceTest::privateNames);
+        KIT.test("LANGUAGE.md rule 1: the classes inside are private or package-visible, and static",
+                FaceTest::classesInside);
+        KIT.test("LANGUAGE.md rule 5: static fields are final", FaceTest::staticFields);
+        KIT.test("LANGUAGE.md rule 11: at most some twelve classes, and some twenty fields in each", FaceTest::sizes);
+        KIT.end();
     }
 
-    private static void methods(Check check) {
+    private static void yes(String what, boolean holds) {
+        KIT.is(what, holds, true);
+    }
+
+    private static void theClass() {
+        KIT.is("modifiers", TapLoom.class.getModifiers(), Modifier.PUBLIC | Modifier.FINAL);
+        yes("no package", TapLoom.class.getPackageName().isEmpty());
+        yes("no class above it", TapLoom.class.getSuperclass() == Object.class);
+        KIT.is("interfaces", TapLoom.class.getInterfaces().length, 0);
+    }
+
+    private static void constructor() {
+        Constructor<?>[] all = TapLoom.class.getDeclaredConstructors();
+        KIT.is("constructors", all.length, 1);
+        KIT.is("its parameters", all[0].getParameterCount(), 0);
+        yes("it is public", Modifier.isPublic(all[0].getModifiers()));
+        KIT.is("its throws clause", all[0].getExceptionTypes().length, 0);
+    }
+
+    private static void methods() {
         Set<String> due = new TreeSet<>(Arrays.asList(METHODS));
         Set<String> found = new TreeSet<>();
-        Set<String> publicNames = new TreeSet<>();
         for (Method m : TapLoom.class.getDeclaredMethods()) {
             if (!Modifier.isPrivate(m.getModifiers())) {
                 found.add(faceOf(m));
-                publicNames.add(m.getName());
-                check.due(m.getName() + " is public", Modifier.isPublic(m.getModifiers()), true);
-                check.due(m.getName() + " is static", Modifier.isStatic(m.getModifiers()), false);
+                KIT.is(m.getName() + ": modifiers", m.getModifiers(), Modifier.PUBLIC);
             }
         }
         if (!found.equals(due)) {
-            check.fail("the face is " + found + ", due is " + due);
-        }
-        for (Method m : TapLoom.class.getDeclaredMethods()) {
-            if (Modifier.isPrivate(m.getModifiers()) && publicNames.contains(m.getName())) {
-                check.fail("a private method bears the public name " + m.getName());
-            }
-        }
-        for (Class<?> inside : TapLoom.class.getDeclaredClasses()) {
-            for (Method m : inside.getDeclaredMethods()) {
-                if (publicNames.contains(m.getName())) {
-                    check.fail(inside.getName() + " bears the public name " + m.getName());
-                }
-            }
+            KIT.fail("the face is " + found + ", due is " + due);
         }
     }
 
@@ -80,44 +91,74 @@ final class FaceTest {
         return face.toString();
     }
 
-    private static void fields(Check check) {
-        check.due("NONE", TapLoom.NONE, -1);
-        check.due("LOW", TapLoom.LOW, 0);
-        check.due("HIGH", TapLoom.HIGH, 1);
-        check.due("QUARTER", TapLoom.QUARTER, 2);
+    private static void constants() {
         Set<String> open = new TreeSet<>();
         for (Field f : TapLoom.class.getDeclaredFields()) {
             if (!Modifier.isPrivate(f.getModifiers())) {
                 open.add(Modifier.toString(f.getModifiers()) + " " + f.getType() + " " + f.getName());
             }
-            if (Modifier.isStatic(f.getModifiers())) {
-                check.due(f.getName() + " is final", Modifier.isFinal(f.getModifiers()), true);
+        }
+        Set<String> due = new TreeSet<>();
+        for (String name : CONSTANTS) {
+            due.add("public static final int " + name);
+        }
+        if (!open.equals(due)) {
+            KIT.fail("open fields are " + open + ", due is " + due);
+        }
+    }
+
+    private static void privateNames() {
+        Set<String> open = new TreeSet<>();
+        for (Method m : TapLoom.class.getDeclaredMethods()) {
+            if (Modifier.isPublic(m.getModifiers())) {
+                open.add(m.getName());
             }
         }
-        Set<String> due = new TreeSet<>(Arrays.asList("public static final int NONE",
-                "public static final int LOW", "public static final int HIGH",
-                "public static final int QUARTER"));
-        if (!open.equals(due)) {
-            check.fail("open fields are " + open);
+        for (Method m : TapLoom.class.getDeclaredMethods()) {
+            yes(m + " bears a name of its own", Modifier.isPublic(m.getModifiers()) || !open.contains(m.getName()));
         }
-    }
-
-    private static void constructors(Check check) {
-        Constructor<?>[] all = TapLoom.class.getDeclaredConstructors();
-        check.due("constructors", all.length, 1);
-        check.due("its parameters", all[0].getParameterCount(), 0);
-        check.due("it is public", Modifier.isPublic(all[0].getModifiers()), true);
-        check.due("the class is public and final",
-                TapLoom.class.getModifiers(), Modifier.PUBLIC | Modifier.FINAL);
-    }
-
-    private static void classesInside(Check check) {
-        check.due("at most twelve classes", TapLoom.class.getDeclaredClasses().length <= 11, true);
         for (Class<?> inside : TapLoom.class.getDeclaredClasses()) {
-            check.due(inside.getName() + " is public",
-                    Modifier.isPublic(inside.getModifiers()), false);
-            check.due(inside.getName() + " is static",
-                    Modifier.isStatic(inside.getModifiers()), true);
+            for (Method m : inside.getDeclaredMethods()) {
+                yes(m + " bears a name of its own", !open.contains(m.getName()));
+            }
         }
+    }
+
+    private static void classesInside() {
+        for (Class<?> inside : TapLoom.class.getDeclaredClasses()) {
+            int modifiers = inside.getModifiers();
+            yes(inside + " is not open", !Modifier.isPublic(modifiers) && !Modifier.isProtected(modifiers));
+            yes(inside + " is static", Modifier.isStatic(modifiers));
+        }
+    }
+
+    private static void staticFields() {
+        staticFieldsOf(TapLoom.class);
+        for (Class<?> inside : TapLoom.class.getDeclaredClasses()) {
+            staticFieldsOf(inside);
+        }
+    }
+
+    private static void staticFieldsOf(Class<?> type) {
+        for (Field f : type.getDeclaredFields()) {
+            yes(f + " is final, if it is static",
+                    !Modifier.isStatic(f.getModifiers()) || Modifier.isFinal(f.getModifiers()));
+        }
+    }
+
+    private static void sizes() {
+        yes("twelve classes", 1 + TapLoom.class.getDeclaredClasses().length <= 12);
+        yes("twenty fields", fieldsOf(TapLoom.class) <= 20);
+        for (Class<?> inside : TapLoom.class.getDeclaredClasses()) {
+            yes("twenty fields in " + inside, fieldsOf(inside) <= 20);
+        }
+    }
+
+    private static int fieldsOf(Class<?> type) {
+        int count = 0;
+        for (Field f : type.getDeclaredFields()) {
+            count += Modifier.isStatic(f.getModifiers()) ? 0 : 1;
+        }
+        return count;
     }
 }
