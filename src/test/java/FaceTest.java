@@ -1,7 +1,10 @@
+import java.io.IOException;
 import java.lang.reflect.Constructor;
 import java.lang.reflect.Field;
 import java.lang.reflect.Method;
 import java.lang.reflect.Modifier;
+import java.nio.file.Files;
+import java.nio.file.Paths;
 import java.util.Arrays;
 import java.util.Set;
 import java.util.TreeSet;
@@ -29,15 +32,28 @@ final class FaceTest {
         "int answerAnew(int) IndexOutOfBoundsException",
         "int sifted(int) IndexOutOfBoundsException",
     };
+    // The calls with what the interface says ahead of them, in the document's order.
+    private static final String[] ROWS = {
+        "TapLoom(",
+        "// ---- sections", "section(", "set(", "chain(", "arrange(", "run(", "rest(",
+        "// ---- taps, samples", "tap(", "ask(", "design(", "sample(",
+        "// ---- what is asked", "of(", "output(", "gain(", "meets(", "cycles(", "tapOf(", "answer(", "answerAnew(",
+        "sifted(",
+    };
     private static final String[] CONSTANTS = {"NONE", "LOW", "HIGH", "QUARTER"};
 
     private static final Kit KIT = new Kit();
 
-    public static void main(String[] args) {
+    public static void main(String[] args) throws IOException {
+        String source = Files.readString(Paths.get("src/main/java/TapLoom.java"));
         KIT.test("The public face: its class is public and final and has no package", FaceTest::theClass);
         KIT.test("The public face: one constructor, public, without parameters", FaceTest::constructor);
         KIT.test("The public face: just its methods, each with its throws clause in order", FaceTest::methods);
         KIT.test("The public face: just its constants, public static final int", FaceTest::constants);
+        KIT.test("The public face, 'Ahead of the calls ... the interface says: ---- sections' and so on",
+                () -> rows(source));
+        KIT.test("The constants: what the interface says of them, 'There is none' and 'Where gains are'",
+                () -> saidOfConstants(source));
         KIT.test("LANGUAGE.md rule 1: no private method bears the name of a public one", FaceTest::privateNames);
         KIT.test("LANGUAGE.md rule 1: the classes inside are private or package-visible, and static",
                 FaceTest::classesInside);
@@ -105,6 +121,35 @@ final class FaceTest {
         if (!open.equals(due)) {
             KIT.fail("open fields are " + open + ", due is " + due);
         }
+    }
+
+    private static void rows(String source) {
+        int behind = 0;
+        for (String row : ROWS) {
+            String start = row.startsWith("//") ? "    " + row + "\n" : " " + row;
+            int at = row.startsWith("//") ? source.indexOf(start, behind) : openAt(source, start, behind);
+            yes(row + " stands behind the one ahead of it", at >= 0);
+            behind = Math.max(behind, at);
+        }
+    }
+
+    /** Where a public row of the source has this in it, or -1. */
+    private static int openAt(String source, String start, int from) {
+        int row = source.indexOf("    public ", from);
+        while (row >= 0) {
+            int end = source.indexOf('\n', row);
+            if (source.substring(row, end).contains(start)) {
+                return row;
+            }
+            row = source.indexOf("    public ", end);
+        }
+        return -1;
+    }
+
+    private static void saidOfConstants(String source) {
+        yes("NONE", source.contains("    /** There is none. */\n    public static final int NONE = -1;\n"));
+        yes("LOW, HIGH and QUARTER", source.contains(
+                "    /** Where gains are. */\n    public static final int LOW = 0, HIGH = 1, QUARTER = 2;\n"));
     }
 
     private static void privateNames() {
